@@ -162,14 +162,8 @@ public final class NetworkStates {
         if (!isMask(mask)) {
             return -1;
         }
-        long greatest = 0;
-        for (int up = 0; up < (1 << edgeCount); up++) {
-            if (isState(up, NO_EDGE) && !connects(mask, up)) {
-                long found = weightOf(up, NO_EDGE);
-                greatest = found > greatest ? found : greatest;
-            }
-        }
-        return greatest;
+        int state = worstState(mask);
+        return state < 0 ? 0 : weightOf(state, NO_EDGE);
     }
 
     public int worstState(int mask) {
@@ -327,7 +321,7 @@ public final class NetworkStates {
     /** All nodes that one can come to from the given ones along edges that are up. */
     private int reachedFrom(int nodes, int up) {
         int reached = nodes;
-        // A round that adds no node is the last that matters, so one fewer than the nodes suffice.
+        // A round adds a node unless all are reached, and at most NODES - 1 can be added.
         for (int round = 1; round < NODES; round++) {
             for (int i = 0; i < edgeCount; i++) {
                 int ends = endsOf(i);
@@ -392,7 +386,7 @@ public final class NetworkStates {
         return true;
     }
 
-    /** A closed way runs along some edge whose ends the other edges connect, and only then is one. */
+    /** There is a closed way just if the ends of some edge are connected by the other ones, too. */
     private boolean hasClosedWay(int up) {
         for (int i = 0; i < edgeCount; i++) {
             int ends = endsOf(i);

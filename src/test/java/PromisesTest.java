@@ -567,6 +567,12 @@ public final class PromisesTest {
                 due.answer(call + " of twelve edges", full.polynomial(x, y), ofFull);
             }
         }
+        NetworkStates path = new NetworkStates();
+        for (int v = 0; v < 4; v++) {
+            path.link(v, v + 1, 8);
+        }
+        due.answer("18: a path", path.polynomial(2, -3), 81);
+        due.answer("18: a path, x -3", path.polynomial(-3, 3), 16);
         due.answer("18: trees", all.polynomial(0, 0), 125);
         due.answer("18: sets of edges", all.polynomial(1, 1), 1024);
         due.answer("18: forests", all.polynomial(1, 0), 1 + 10 + 45 + 110 + 125);
