@@ -413,6 +413,7 @@ public final class PromisesTest {
         for (int mask : noMasks) {
             due.answer("12: worst(" + mask + ")", n.worst(mask), -1);
         }
+        due.answer("12: the least weight above 0", twelveBetween(0, 1, 15).worst(3), 1);
         due.answer("12: twelve down", twelveBetween(0, 1, 1).worst(3), 129746337890625L);
     }
 
@@ -446,6 +447,7 @@ public final class PromisesTest {
         for (int mask : noMasks) {
             due.answer("13: worstState(" + mask + ")", n.worstState(mask), -1);
         }
+        due.answer("13: the least weight above 0", twelveBetween(0, 1, 15).worstState(3), 0);
         due.answer("13: all twelve up", twelveBetween(0, 1, 9).worstState(4 + 8), 4095);
     }
 
