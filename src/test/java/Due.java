@@ -1,3 +1,5 @@
+import java.util.List;
+
 /** Compares answers with those that are due, and ends a test with exit code 1 if one differs. */
 final class Due {
     private static final int SHOWN = 40;
@@ -21,6 +23,10 @@ final class Due {
             wrong++;
             System.out.println("not so: " + what);
         }
+    }
+
+    void same(String what, List<Long> got, List<Long> want) {
+        holds(what + ": " + got + " as " + want, got.equals(want));
     }
 
     void end() {

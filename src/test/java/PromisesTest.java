@@ -1,10 +1,9 @@
 /** Each promise with answers worked out by hand: ordinary inputs, named edges, wrong inputs. */
 public final class PromisesTest {
-    /** The weight of all states together: 16 to the power 12. */
-    private static final long ALL = 1L << 48;
-    private static final int LOW = Integer.MIN_VALUE;
-    private static final int HIGH = Integer.MAX_VALUE;
-    private static final int NO_POLYNOMIAL = -1000000000;
+    private static final long ALL = Networks.ALL;
+    private static final int LOW = Networks.LOW;
+    private static final int HIGH = Networks.HIGH;
+    private static final int NO_POLYNOMIAL = Networks.NO_POLYNOMIAL;
 
     private static final Due due = new Due();
 
@@ -34,33 +33,6 @@ public final class PromisesTest {
         questionsChangeNothing();
         objectsAreApart();
         due.end();
-    }
-
-    /** Nodes 0, 1, 2; every share is 8, so that every state weighs the same. */
-    private static NetworkStates triangle() {
-        NetworkStates n = new NetworkStates();
-        n.link(0, 1, 8);
-        n.link(1, 2, 8);
-        n.link(2, 0, 8);
-        return n;
-    }
-
-    private static NetworkStates completeNetwork() {
-        NetworkStates n = new NetworkStates();
-        for (int a = 0; a < 5; a++) {
-            for (int b = a + 1; b < 5; b++) {
-                n.link(a, b, 8);
-            }
-        }
-        return n;
-    }
-
-    private static NetworkStates twelveBetween(int a, int b, int share) {
-        NetworkStates n = new NetworkStates();
-        for (int i = 0; i < 12; i++) {
-            n.link(a, b, share);
-        }
-        return n;
     }
 
     private static void newObject() {
@@ -158,7 +130,7 @@ public final class PromisesTest {
         due.answer("3: to none", n.unlink(0), 0);
         due.answer("3: from none", n.unlink(0), -1);
 
-        NetworkStates full = twelveBetween(0, 1, 4);
+        NetworkStates full = Networks.twelveBetween(0, 1, 4);
         due.answer("3: unlink(12) of twelve", full.unlink(12), -1);
         due.answer("3: unlink(0) of twelve", full.unlink(0), 11);
         due.answer("3: room for one again", full.link(0, 1, 9), 11);
@@ -216,7 +188,7 @@ public final class PromisesTest {
     }
 
     private static void clear() {
-        NetworkStates n = triangle();
+        NetworkStates n = Networks.triangle();
         n.hold(1, 1);
         due.answer("6: clear()", n.clear(), 3);
         due.answer("6: no edge 0", n.unlink(0), -1);
@@ -228,7 +200,7 @@ public final class PromisesTest {
     }
 
     private static void weight() {
-        NetworkStates n = triangle();
+        NetworkStates n = Networks.triangle();
         due.answer("7: all three nodes", n.weight(7), ALL / 2);
         due.answer("7: two nodes", n.weight(3), ALL / 8 * 5);
         due.answer("7: two others", n.weight(5), ALL / 8 * 5);
@@ -253,7 +225,7 @@ public final class PromisesTest {
     }
 
     private static void weightWithHeldEdges() {
-        NetworkStates n = triangle();
+        NetworkStates n = Networks.triangle();
         n.hold(0, 1);
         due.answer("7: held up", n.weight(3), ALL);
         due.answer("7: held up, the others", n.weight(7), ALL / 4 * 3);
@@ -265,7 +237,7 @@ public final class PromisesTest {
     }
 
     private static void weightWithTwelveEdges() {
-        NetworkStates n = twelveBetween(1, 4, 15);
+        NetworkStates n = Networks.twelveBetween(1, 4, 15);
         due.answer("7: all but the state with all down", n.weight(18), ALL - 1);
         n.hold(11, 0);
         due.answer("7: one of twelve held down", n.weight(18), ALL - 16);
@@ -274,7 +246,7 @@ public final class PromisesTest {
     }
 
     private static void states() {
-        NetworkStates n = triangle();
+        NetworkStates n = Networks.triangle();
         n.share(0, 0);
         n.share(1, 16);
         int[] allStates = {1, 3, 3, 1, 0};
@@ -308,14 +280,14 @@ public final class PromisesTest {
             due.answer("8: one held down, " + k, n.states(0, k), withOneDown[k]);
         }
         due.answer("8: one held down, all nodes", n.states(7, 2), 1);
-        NetworkStates full = twelveBetween(0, 1, 8);
+        NetworkStates full = Networks.twelveBetween(0, 1, 8);
         due.answer("8: all twelve up", full.states(3, 12), 1);
         due.answer("8: six of twelve up", full.states(3, 6), 924);
         due.answer("8: none of twelve up", full.states(3, 0), 0);
     }
 
     private static void parts() {
-        NetworkStates n = triangle();
+        NetworkStates n = Networks.triangle();
         long[] sums = {0, 0, 0, ALL / 2, ALL / 8 * 3, ALL / 8, 0};
         for (int k = 0; k < 7; k++) {
             due.answer("9: parts(" + k + ")", n.parts(k), sums[k]);
@@ -337,7 +309,7 @@ public final class PromisesTest {
     }
 
     private static void pairs() {
-        NetworkStates n = triangle();
+        NetworkStates n = Networks.triangle();
         due.answer("10: triangle", n.pairs(), ALL / 8 * 15);
         n.link(3, 4, 4);
         due.answer("10: and a pair apart", n.pairs(), ALL / 8 * 15 + ALL / 4);
@@ -354,7 +326,7 @@ public final class PromisesTest {
     }
 
     private static void pivotal() {
-        NetworkStates n = triangle();
+        NetworkStates n = Networks.triangle();
         long others = ALL / 16;
         due.answer("11: three nodes", n.pivotal(7, 0), others / 2);
         due.answer("11: its two nodes", n.pivotal(3, 0), others / 4 * 3);
@@ -386,7 +358,7 @@ public final class PromisesTest {
         for (int mask : noMasks) {
             due.answer("11: pivotal(" + mask + ", 0)", n.pivotal(mask, 0), -1);
         }
-        NetworkStates full = twelveBetween(2, 3, 8);
+        NetworkStates full = Networks.twelveBetween(2, 3, 8);
         due.answer("11: the only one of twelve up", full.pivotal(12, 11), others / 2048);
     }
 
@@ -413,8 +385,8 @@ public final class PromisesTest {
         for (int mask : noMasks) {
             due.answer("12: worst(" + mask + ")", n.worst(mask), -1);
         }
-        due.answer("12: the least weight above 0", twelveBetween(0, 1, 15).worst(3), 1);
-        due.answer("12: twelve down", twelveBetween(0, 1, 1).worst(3), 129746337890625L);
+        due.answer("12: the least weight above 0", Networks.twelveBetween(0, 1, 15).worst(3), 1);
+        due.answer("12: twelve down", Networks.twelveBetween(0, 1, 1).worst(3), 129746337890625L);
     }
 
     private static void worstState() {
@@ -447,12 +419,12 @@ public final class PromisesTest {
         for (int mask : noMasks) {
             due.answer("13: worstState(" + mask + ")", n.worstState(mask), -1);
         }
-        due.answer("13: the least weight above 0", twelveBetween(0, 1, 15).worstState(3), 0);
-        due.answer("13: all twelve up", twelveBetween(0, 1, 9).worstState(4 + 8), 4095);
+        due.answer("13: the least weight above 0", Networks.twelveBetween(0, 1, 15).worstState(3), 0);
+        due.answer("13: all twelve up", Networks.twelveBetween(0, 1, 9).worstState(4 + 8), 4095);
     }
 
     private static void cuts() {
-        NetworkStates n = triangle();
+        NetworkStates n = Networks.triangle();
         n.share(0, 0);
         n.hold(1, 1);
         n.hold(2, 0);
@@ -475,17 +447,17 @@ public final class PromisesTest {
         for (int mask : noMasks) {
             due.answer("14: cuts(" + mask + ", 0)", n.cuts(mask, 0), -1);
         }
-        NetworkStates all = completeNetwork();
+        NetworkStates all = Networks.complete();
         due.answer("14: one node from four", all.cuts(31, 4), 5);
         due.answer("14: two nodes from three", all.cuts(31, 6), 10);
         due.answer("14: no five", all.cuts(31, 5), 0);
         due.answer("14: one node from another", all.cuts(3, 4), 2);
-        due.answer("14: twelve at once", twelveBetween(0, 1, 8).cuts(3, 12), 1);
+        due.answer("14: twelve at once", Networks.twelveBetween(0, 1, 8).cuts(3, 12), 1);
     }
 
     private static void trees() {
-        due.answer("15: triangle", triangle().trees(), 0);
-        NetworkStates n = completeNetwork();
+        due.answer("15: triangle", Networks.triangle().trees(), 0);
+        NetworkStates n = Networks.complete();
         due.answer("15: ten edges", n.trees(), 125);
         n.link(0, 1, 0);
         due.answer("15: eleven edges", n.trees(), 175);
@@ -505,7 +477,7 @@ public final class PromisesTest {
     }
 
     private static void forests() {
-        NetworkStates n = completeNetwork();
+        NetworkStates n = Networks.complete();
         int[] ofAll = {1, 10, 45, 110, 125, 0, 0};
         for (int k = 0; k < 7; k++) {
             due.answer("16: forests(" + k + ")", n.forests(k), ofAll[k]);
@@ -518,11 +490,11 @@ public final class PromisesTest {
         for (int k : noCounts) {
             due.answer("16: forests(" + k + ")", n.forests(k), 0);
         }
-        NetworkStates full = twelveBetween(0, 1, 8);
+        NetworkStates full = Networks.twelveBetween(0, 1, 8);
         due.answer("16: one of twelve", full.forests(1), 12);
         due.answer("16: two between the same two nodes", full.forests(2), 0);
-        due.answer("16: two of a triangle", triangle().forests(2), 3);
-        due.answer("16: a whole triangle", triangle().forests(3), 0);
+        due.answer("16: two of a triangle", Networks.triangle().forests(2), 3);
+        due.answer("16: a whole triangle", Networks.triangle().forests(3), 0);
     }
 
     private static void colourings() {
@@ -530,8 +502,8 @@ public final class PromisesTest {
         int[] ofNone = {0, 1, 32, 243, 1024};
         int[] ofTriangle = {0, 0, 0, 6 * 9, 24 * 16};
         int[] ofAll = {0, 0, 0, 0, 0};
-        NetworkStates three = triangle();
-        NetworkStates all = completeNetwork();
+        NetworkStates three = Networks.triangle();
+        NetworkStates all = Networks.complete();
         for (int q = 0; q < 5; q++) {
             due.answer("17: no edge, " + q, n.colourings(q), ofNone[q]);
             due.answer("17: triangle, " + q, three.colourings(q), ofTriangle[q]);
@@ -544,15 +516,15 @@ public final class PromisesTest {
         three.hold(0, 0);
         three.share(1, 0);
         due.answer("17: holds and shares do not matter", three.colourings(3), 54);
-        due.answer("17: twelve edges are as one", twelveBetween(3, 4, 8).colourings(3), 162);
+        due.answer("17: twelve edges are as one", Networks.twelveBetween(3, 4, 8).colourings(3), 162);
         all.unlink(9);
         due.answer("17: all edges but one", all.colourings(4), 24);
     }
 
     private static void polynomial() {
-        NetworkStates three = triangle();
-        NetworkStates all = completeNetwork();
-        NetworkStates full = twelveBetween(0, 1, 8);
+        NetworkStates three = Networks.triangle();
+        NetworkStates all = Networks.complete();
+        NetworkStates full = Networks.twelveBetween(0, 1, 8);
         three.hold(0, 0);
         three.share(1, 0);
         for (int x = -3; x <= 3; x++) {
@@ -608,7 +580,7 @@ public final class PromisesTest {
     }
 
     private static void questionsChangeNothing() {
-        NetworkStates n = triangle();
+        NetworkStates n = Networks.triangle();
         n.hold(0, 1);
         n.share(1, 3);
         for (int time = 0; time < 2; time++) {
@@ -630,7 +602,7 @@ public final class PromisesTest {
 
     private static void objectsAreApart() {
         NetworkStates one = new NetworkStates();
-        NetworkStates other = triangle();
+        NetworkStates other = Networks.triangle();
         due.answer("apart: link", one.link(3, 4, 16), 0);
         due.answer("apart: the other", other.weight(24), 0);
         due.answer("apart: clear", one.clear(), 1);
