@@ -28,6 +28,7 @@ public final class BoundariesTest {
         holdNeedsAnEdge();
         holdNeedsAHow();
         clearTakesAllEdges();
+        clearLeavesNothing();
         weightFromNothingToAll();
         statesOfACountThatNoStateHas();
         statesOfTheLeastAndGreatestCount();
@@ -298,13 +299,26 @@ public final class BoundariesTest {
     /** 6: Takes all edges away. Answers how many there were. */
     private static void clearTakesAllEdges() {
         for (int edges = 0; edges <= 12; edges++) {
-            NetworkStates n = Networks.between(0, 1, 16, edges);
-            for (int i = 0; i < edges; i++) {
-                n.hold(i, 1);
+            for (int how = 0; how <= 2; how++) {
+                NetworkStates n = Networks.between(0, 1, 15, edges);
+                for (int i = 0; i < edges; i++) {
+                    n.hold(i, how);
+                }
+                String which = "6: " + edges + " edges, how " + how;
+                due.answer(which + ": clear()", n.clear(), edges);
+                due.answer(which + ": clear() again", n.clear(), 0);
+                due.same(which + ": as a new one", ReadOut.of(n), ReadOut.of(Networks.none()));
             }
-            due.answer("6: clear() of " + edges, n.clear(), edges);
-            due.answer("6: clear() again", n.clear(), 0);
-            due.same("6: as a new one", ReadOut.of(n), ReadOut.of(Networks.none()));
+        }
+    }
+
+    /** What went away has no weight, no hold and no nodes any more where a new edge is put. */
+    private static void clearLeavesNothing() {
+        for (int how = 0; how <= 2; how++) {
+            NetworkStates n = Networks.twelveBetween(3, 4, 15);
+            n.hold(0, how);
+            n.hold(1, how);
+            n.clear();
             due.answer("6: the next edge", n.link(0, 1, 8), 0);
             due.same("6: as one with one edge", ReadOut.of(n), ReadOut.of(Networks.between(0, 1, 8, 1)));
         }
@@ -329,7 +343,10 @@ public final class BoundariesTest {
                 due.answer("8: states(0, " + k + ") of " + edges, n.states(0, k), 0);
                 due.answer("8: states(3, " + k + ") of " + edges, n.states(3, k), 0);
             }
-            due.answer("8: more than there are", n.states(0, edges + 1), 0);
+            for (int k = edges + 1; k <= 13; k++) {
+                due.answer("8: " + k + ", more than there are", n.states(0, k), 0);
+                due.answer("8: " + k + ", more than connect", n.states(3, k), 0);
+            }
         }
         NetworkStates held = Networks.threeMixed();
         due.answer("8: fewer than are held up", held.states(0, 0), 0);
@@ -570,7 +587,9 @@ public final class BoundariesTest {
             due.answer("14: none of " + edges, n.cuts(20, 0), 0);
             due.answer("14: all but one of " + edges, n.cuts(20, edges - 1), 0);
             due.answer("14: all of " + edges, n.cuts(20, edges), 1);
-            due.answer("14: more than " + edges, n.cuts(20, edges + 1), 0);
+            for (int k = edges + 1; k <= 13; k++) {
+                due.answer("14: " + k + ", more than " + edges, n.cuts(20, k), 0);
+            }
             for (int k : NO_COUNTS) {
                 due.answer("14: cuts(20, " + k + ") of " + edges, n.cuts(20, k), 0);
                 due.answer("14: cuts(3, " + k + ") of " + edges, n.cuts(3, k), 0);
@@ -629,8 +648,10 @@ public final class BoundariesTest {
         }
         NetworkStates path = Networks.path(8);
         due.answer("16: a whole path", path.forests(4), 1);
-        due.answer("16: more than a path", path.forests(5), 0);
-        due.answer("16: five of ten", Networks.complete().forests(5), 0);
+        for (int k = 5; k <= 13; k++) {
+            due.answer("16: " + k + ", more than a path", path.forests(k), 0);
+            due.answer("16: " + k + " of ten", Networks.complete().forests(k), 0);
+        }
         due.answer("16: four of ten", Networks.complete().forests(4), 125);
     }
 

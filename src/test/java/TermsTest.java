@@ -23,6 +23,7 @@ public final class TermsTest {
         heldEdgesAreAsTheyAreHeld();
         numberOfAState();
         sixteenForEveryEdgeFewer();
+        sixteenForEveryEdgeThatWentAway();
         sixteenForEveryHeldEdge();
         allStatesTogether();
         wayThroughOtherNodes();
@@ -296,6 +297,20 @@ public final class TermsTest {
             due.answer(edges + " edges, all up", n.worst(24),
                     Networks.power(15, edges) * Networks.power(16, 12 - edges));
         }
+    }
+
+    private static void sixteenForEveryEdgeThatWentAway() {
+        NetworkStates n = Networks.twelveBetween(0, 1, 15);
+        for (int edges = 11; edges >= 0; edges--) {
+            n.unlink(edges);
+            due.answer(edges + " edges are left, all down", n.worst(3), Networks.power(16, 12 - edges));
+            due.answer(edges + " edges are left, all states", n.weight(0), ALL);
+        }
+        NetworkStates cleared = Networks.twelveBetween(0, 1, 15);
+        cleared.clear();
+        due.answer("all went at once", cleared.worst(3), ALL);
+        cleared.link(0, 1, 15);
+        due.answer("one came again", cleared.worst(3), ALL / 16);
     }
 
     /** Its WEIGHT: times 16 for every edge that is held. */
