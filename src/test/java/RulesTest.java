@@ -1,192 +1,239 @@
 import java.io.IOException;
-import java.lang.reflect.Constructor;
-import java.lang.reflect.Field;
-import java.lang.reflect.Method;
-import java.lang.reflect.Modifier;
 import java.nio.file.Files;
 import java.nio.file.Path;
-import java.util.ArrayList;
-import java.util.HashSet;
 import java.util.List;
-import java.util.Set;
-import java.util.TreeSet;
-import java.util.regex.Matcher;
-import java.util.regex.Pattern;
 
-/** The public face, and the rules of LANGUAGE.md that can be seen from the class and its source. */
+/**
+ * The class keeps to LANGUAGE.md, as far as Rules can tell; and Rules finds at least one breach of
+ * each rule that can be judged from the text, and none where there is none.
+ */
 public final class RulesTest {
     private static final Path SOURCE = Path.of("src/main/java/NetworkStates.java");
-    private static final List<String> FACE = List.of(
-            "int link(int,int,int)", "int unlink(int)", "int share(int,int)", "int hold(int,int)",
-            "int clear()", "long weight(int)", "int states(int,int)", "long parts(int)",
-            "long pairs()", "long pivotal(int,int)", "long worst(int)", "int worstState(int)",
-            "int cuts(int,int)", "int trees()", "int forests(int)", "int colourings(int)",
-            "int polynomial(int,int)");
-    private static final List<String> RULED_OUT = List.of(
-            "package", "import", "float", "double", "Math", "Integer", "Long", "String", "System",
-            "Arrays", "Object", "null", "throw", "throws", "try", "catch", "finally",
-            "synchronized", "assert", "instanceof", "interface", "enum", "record", "var", "this",
-            "super", "getClass", "hashCode", "equals", "toString", "clone", "native");
 
     private static final Due due = new Due();
 
     public static void main(String[] args) throws IOException {
-        Class<?> type = NetworkStates.class;
-        publicFace(type);
-        fields(type);
-        methods(type);
-        String source = withoutComments(Files.readString(SOURCE));
-        words(source);
-        arrays(source);
-        callsInArguments(source);
-        methodLengths(source);
-        recursion(source, type);
+        List<String> breaches = Rules.breachesOf(Files.readString(SOURCE));
+        due.holds("the class keeps to the rules: " + breaches, breaches.isEmpty());
+        kept();
+        oneClass();
+        types();
+        library();
+        arrays();
+        staticFields();
+        ruledOutByName();
+        divisors();
+        loops();
+        recursion();
+        shortMethods();
         due.end();
     }
 
-    private static void publicFace(Class<?> type) {
-        due.holds("the class is public and final",
-                Modifier.isPublic(type.getModifiers()) && Modifier.isFinal(type.getModifiers()));
-        due.holds("the class extends nothing", type.getSuperclass() == Object.class);
-        due.holds("the class implements nothing", type.getInterfaces().length == 0);
-        due.holds("no nested class", type.getDeclaredClasses().length == 0);
-        Constructor<?>[] constructors = type.getDeclaredConstructors();
-        due.holds("one public constructor without parameters", constructors.length == 1
-                && Modifier.isPublic(constructors[0].getModifiers())
-                && constructors[0].getParameterCount() == 0);
-        Set<String> seen = new TreeSet<>();
-        for (Method m : type.getDeclaredMethods()) {
-            if (!Modifier.isPrivate(m.getModifiers())) {
-                due.holds(m + " is public, not static",
-                        Modifier.isPublic(m.getModifiers()) && !Modifier.isStatic(m.getModifiers()));
-                seen.add(signature(m));
-            }
-        }
-        due.holds("the face is the document's, not " + seen, seen.equals(new TreeSet<>(FACE)));
+    private static String withMember(String member) {
+        return "public final class NetworkStates {\n"
+                + "private static final int MOST = 12;\n"
+                + "private static final int NOTHING = 0;\n"
+                + "private final int[] row = new int[MOST];\n"
+                + "private int count;\n"
+                + member + "\n"
+                + "private static int twice(int a) { return 2 * a; }\n"
+                + "public int clear() { return count; }\n}\n";
     }
 
-    private static String signature(Method m) {
-        List<String> parameters = new ArrayList<>();
-        for (Class<?> p : m.getParameterTypes()) {
-            parameters.add(p.getName());
-        }
-        return m.getReturnType().getName() + " " + m.getName() + "(" + String.join(",", parameters) + ")";
+    private static String withBody(String body) {
+        return withMember("public int unlink(int i) { " + body + " return i; }");
     }
 
-    private static void fields(Class<?> type) {
-        int count = 0;
-        for (Field f : type.getDeclaredFields()) {
-            int modifiers = f.getModifiers();
-            due.holds(f + " is private", Modifier.isPrivate(modifiers));
-            if (Modifier.isStatic(modifiers)) {
-                due.holds(f + " is a constant of int or long", Modifier.isFinal(modifiers)
-                        && (f.getType() == int.class || f.getType() == long.class));
-            } else {
-                count++;
-                Class<?> held = f.getType().isArray() ? f.getType().getComponentType() : f.getType();
-                due.holds(f + " is a number or a row of numbers", held.isPrimitive());
-                due.holds(f + " is final if it is a row",
-                        !f.getType().isArray() || Modifier.isFinal(modifiers));
-            }
-        }
-        due.holds("at most forty fields", count <= 40);
+    private static void found(int rule, String source) throws IOException {
+        List<String> breaches = Rules.breachesOf(source);
+        boolean seen = breaches.stream().anyMatch(b -> b.startsWith("rule " + rule + ":"));
+        due.holds("a breach of rule " + rule + " is found, not " + breaches + " in " + source, seen);
     }
 
-    private static void methods(Class<?> type) {
-        Set<String> publicNames = new HashSet<>();
-        for (Method m : type.getMethods()) {
-            publicNames.add(m.getName());
-        }
-        for (Method m : type.getDeclaredMethods()) {
-            due.holds(m + " has at most seven parameters", m.getParameterCount() <= 7);
-            due.holds(m + " answers no array", !m.getReturnType().isArray());
-            if (Modifier.isPrivate(m.getModifiers())) {
-                due.holds(m + " has a name of its own", !publicNames.contains(m.getName()));
-            }
-        }
+    private static void inMember(int rule, String member) throws IOException {
+        found(rule, withMember(member));
     }
 
-    private static String withoutComments(String source) {
-        return source.replaceAll("(?s)/\\*.*?\\*/", "").replaceAll("//[^\n]*", "");
+    private static void inBody(int rule, String body) throws IOException {
+        found(rule, withBody(body));
     }
 
-    private static void words(String source) {
-        for (String word : RULED_OUT) {
-            due.holds("the word " + word + " is not used",
-                    !Pattern.compile("\\b" + word + "\\b").matcher(source).find());
-        }
-        due.holds("no lambda", !source.contains("->"));
-        due.holds("no method reference", !source.contains("::"));
-        due.holds("no text", !source.contains("\""));
-        due.holds("no annotation", !source.contains("@"));
-        due.holds("no static initialiser", !Pattern.compile("static\\s*\\{").matcher(source).find());
-        due.holds("one class", source.split("\\bclass\\b", -1).length == 2);
+    private static void keptIn(String source) throws IOException {
+        List<String> breaches = Rules.breachesOf(source);
+        due.holds("no breach is found, not " + breaches + " in " + source, breaches.isEmpty());
     }
 
-    private static void arrays(String source) {
-        Matcher made = Pattern.compile("(?m)^.*\\bnew\\b.*$").matcher(source);
-        Pattern field = Pattern.compile("    private final (\\w+)\\[\\] \\w+ = new \\1\\[[A-Z_]+\\];");
-        while (made.find()) {
-            due.holds("made in a field's initialiser: " + made.group(),
-                    field.matcher(made.group()).matches());
-        }
-        due.holds("no array of arrays", !source.contains("[][]"));
+    private static void kept() throws IOException {
+        keptIn(withMember(""));
+        keptIn(withMember("public NetworkStates() { count = 0; }"));
+        keptIn(withMember("private final byte[] more = new byte[3];"));
+        keptIn(withMember("private static final long WIDE = 1L << 48;"));
+        keptIn(withMember("private static int sumOf(int[] some, int n) { return n > 0 ? some[0] : 0; }"));
+        keptIn(withBody("this.count = (int) 5L;"));
+        keptIn(withBody("for (int k = 0; k < row.length; k++) { row[k] = k; }"));
+        keptIn(withBody("int some = twice(i) + twice(count); count = some / 2 % MOST;"));
+        keptIn(withBody("switch (i) { case 1: count = 2; break; default: count = 3; }"));
+        keptIn(withBody("char c = 'a'; boolean b = c > i || !(i == 3); count += b ? 1 : 0;"));
     }
 
-    private static void callsInArguments(String source) {
-        Matcher call = Pattern.compile("\\b([a-z]\\w*)\\(").matcher(source);
-        while (call.find()) {
-            int depth = 1;
-            int end = call.end();
-            while (depth > 0) {
-                char c = source.charAt(end++);
-                depth += c == '(' ? 1 : c == ')' ? -1 : 0;
-            }
-            String inside = source.substring(call.end(), end - 1);
-            due.holds("no call inside " + call.group(1) + "(" + inside + ")",
-                    !Pattern.compile("\\b[a-z]\\w*\\(").matcher(inside).find());
-        }
+    private static void oneClass() throws IOException {
+        found(1, "package some;\n" + withMember(""));
+        found(1, withMember("") + "final class Another { }\n");
+        found(1, withMember("").replace("public final", "public"));
+        found(1, withMember("").replace("public final", "final"));
+        found(1, "public interface NetworkStates { }");
+        found(1, "public enum NetworkStates { }");
+        found(1, "public record NetworkStates() { }");
+        inMember(1, "private static final class Inside { }");
+        inMember(1, "private interface Inside { }");
+        inMember(1, "private enum Inside { }");
+        inMember(1, "private record Inside(int a) { }");
+        inBody(1, "class Inside { }");
+        inMember(1, "int seen;");
+        inMember(1, "public static final int SEEN = 3;");
+        inMember(1, "protected int seen() { return 1; }");
+        inMember(1, "int seen() { return 1; }");
+        inMember(1, "public static int seen() { return 1; }");
+        inMember(1, "private int clear(int a) { return a; }");
+        inMember(1, "NetworkStates() { }");
     }
 
-    private static void methodLengths(String source) {
-        int length = 0;
-        for (String line : source.split("\n")) {
-            length++;
-            if (line.matches("    (public|private) .*\\{")) {
-                length = 1;
-            }
-            if (line.equals("    }")) {
-                due.holds("a method of " + length + " lines is short", length <= 60);
-            }
-        }
+    private static void types() throws IOException {
+        inBody(2, "double d = 1;");
+        inBody(2, "float f = 1;");
+        inBody(2, "count = (int) 1.5;");
+        inBody(2, "count = (int) (i * 2f);");
+        inBody(2, "int[][] rows; count = 1;");
+        inBody(2, "String text;");
+        inBody(2, "count = \"text\".length();");
+        inBody(2, "var some = 3;");
+        inBody(2, "NetworkStates another = this;");
+        inMember(2, "private Object some;");
+        inMember(2, "private int asked(NetworkStates other) { return other.count; }");
+        inMember(2, "private double asked() { return 1; }");
+        found(2, withMember("").replace("NetworkStates {", "NetworkStates implements Runnable {")
+                .replace("public int clear", "public void run() { }\npublic int clear"));
     }
 
-    /** Takes away methods that call none of those left; in six rounds none may be left. */
-    private static void recursion(String source, Class<?> type) {
-        Set<String> names = new TreeSet<>();
-        for (Method m : type.getDeclaredMethods()) {
-            names.add(m.getName());
-        }
-        for (int round = 0; round < 6; round++) {
-            Set<String> left = new TreeSet<>();
-            for (String name : names) {
-                String body = bodyOf(name, source);
-                for (String called : names) {
-                    if (Pattern.compile("\\b" + called + "\\(").matcher(body).find()) {
-                        left.add(name);
-                    }
-                }
-            }
-            names = left;
-        }
-        due.holds("calls go at most six deep and none comes back: " + names, names.isEmpty());
+    private static void library() throws IOException {
+        found(3, "import java.util.List;\n" + withMember(""));
+        found(3, "import static java.lang.Math.max;\n" + withMember(""));
+        inBody(3, "count = Math.max(i, 1);");
+        inBody(3, "count = Integer.MAX_VALUE;");
+        inBody(3, "count = java.lang.Integer.bitCount(i);");
+        inBody(3, "count = hashCode();");
+        inBody(3, "count = this.hashCode();");
+        inBody(3, "boolean same = equals(this);");
+        inBody(3, "int[] copy = row.clone();");
+        inBody(3, "System.out.println();");
+        inMember(3, "@Deprecated private int some;");
+        inMember(3, "@Override public int hashCode() { return super.hashCode(); }");
+        inMember(3, "public NetworkStates() { super(); }");
     }
 
-    private static String bodyOf(String name, String source) {
-        Matcher m = Pattern.compile("(?s)\n    (?:public|private)[^\n;=]* " + name
-                + "\\([^\n]*\\{\n(.*?)\n    \\}").matcher(source);
-        boolean found = m.find();
-        due.holds("the body of " + name + " is found", found);
-        return found ? m.group(1) : "";
+    private static void arrays() throws IOException {
+        inMember(4, "private final int[] some = {1, 2};");
+        inMember(4, "private final int[] some = new int[] {1, 2};");
+        inMember(4, "private final int[] some = new int[0];");
+        inMember(4, "private final int[] some = new int[NOTHING];");
+        inMember(4, "private final int[] some = new int[twice(3)];");
+        inMember(4, "private final int[] some = new int[count];");
+        inMember(4, "private int[] some = new int[3];");
+        inMember(4, "private final int[] some = row;");
+        inMember(4, "private int[] some() { return row; }");
+        inMember(4, "{ count = 3; }");
+        inBody(4, "int[] some = new int[3];");
+        inBody(4, "int[] some = {1, 2};");
+        inBody(4, "int[] some; some = row;");
+        inBody(4, "boolean same = row == row;");
+        inBody(4, "boolean none = row != null;");
+        inBody(4, "new NetworkStates();");
+        inBody(4, "count = new NetworkStates().count;");
+    }
+
+    private static void staticFields() throws IOException {
+        inMember(5, "private static int some;");
+        inMember(5, "private static int some = 3;");
+        inMember(5, "private static final int SOME = twice(3);");
+        inMember(5, "private static final boolean SOME = true;");
+        inMember(5, "private static final short SOME = 3;");
+        inMember(5, "private static final int[] SOME = new int[3];");
+        inMember(5, "static { }");
+    }
+
+    private static void ruledOutByName() throws IOException {
+        inBody(6, "if (i > 3) { throw new RuntimeException(); }");
+        inBody(6, "try { count = 1; } finally { count = 2; }");
+        inBody(6, "synchronized (this) { count = 1; }");
+        inBody(6, "assert i > 0;");
+        inBody(6, "boolean b = (Object) row instanceof int[];");
+        inBody(6, "Runnable r = () -> { };");
+        inBody(6, "Runnable r = this::clear;");
+        inBody(6, "Object o = (Object) row;");
+        inMember(6, "private synchronized int some() { return 1; }");
+        inMember(6, "private int some() throws RuntimeException { return 1; }");
+        inMember(11, "private native int some();");
+    }
+
+    private static void divisors() throws IOException {
+        inBody(7, "count = 5 / i;");
+        inBody(7, "count = 5 % count;");
+        inBody(7, "count = 5 / NOTHING;");
+        inBody(7, "count /= i;");
+        inBody(7, "count %= i;");
+    }
+
+    private static void loops() throws IOException {
+        inBody(8, "while (count < i) { count++; }");
+        inBody(8, "do { count++; } while (count < i);");
+        inBody(8, "for (int r : row) { count += r; }");
+        inBody(8, "for (;;) { if (i > 3) { break; } }");
+        inBody(8, "for (int k = 0; k < i; k++) { k--; }");
+        inBody(8, "for (int k = 0; k < i; k++) { i = i + 1; }");
+        inBody(8, "for (int k = 0; k < count; k++) { count += 1; }");
+        inBody(8, "for (int k = 0; k < i; k += count) { row[0] = k; }");
+        inBody(8, "for (int k = 0; k <= i; k++) { row[0] = k; }");
+        inBody(8, "for (int k = 0; k != i; k++) { row[0] = k; }");
+        inBody(8, "for (int k = 0; k < k + 1; k++) { row[0] = k; }");
+        inBody(8, "for (int k = 0; k < twice(i); k++) { row[0] = k; }");
+        inBody(8, "for (int k = 9; k < i; k--) { row[0] = k; }");
+    }
+
+    private static void recursion() throws IOException {
+        inMember(8, "private int some(int a) { return a < 1 ? 0 : some(a - 1); }");
+        inMember(8, "private int some(int a) { return a < 1 ? 0 : this.some(a - 1); }");
+        inMember(8, "private int one(int a) { return a < 1 ? 0 : other(a - 1); }\n"
+                + "private int other(int a) { return one(a); }");
+    }
+
+    private static void shortMethods() throws IOException {
+        inMember(10, "private int some(int a, int b, int c, int d, int e, int f, int g, int h) { return 1; }");
+        keptIn(withMember("private int some(int a, int b, int c, int d, int e, int f, int g) { return 1; }"));
+        inBody(10, "count = twice(twice(i));");
+        inBody(10, "count = twice(1 + (i > 1 ? twice(3) : 2));");
+        inBody(10, "count = twice(row[twice(1)]);");
+        inBody(10, "count = 1;\n".repeat(61));
+        keptIn(withBody("count = 1;\n".repeat(59)));
+        keptIn(withMember(chain(6)));
+        inMember(10, chain(7));
+        inMember(10, fields(39));
+        keptIn(withMember(fields(38)));
+    }
+
+    /** So many methods, each of which but the last calls the next. */
+    private static String chain(int length) {
+        StringBuilder text = new StringBuilder();
+        for (int m = 1; m < length; m++) {
+            text.append("private int m" + m + "(int a) { return m" + (m + 1) + "(a); }\n");
+        }
+        return text + "private int m" + length + "(int a) { return a; }";
+    }
+
+    private static String fields(int count) {
+        StringBuilder text = new StringBuilder();
+        for (int f = 0; f < count; f++) {
+            text.append("private int f" + f + ";\n");
+        }
+        return text.toString();
     }
 }
