@@ -1,6 +1,7 @@
 /**
- * The sentences of "What it is" and "Terms": a method for each that names a boundary, with the
- * sentence above it. What the document says of refusals is in RefusalsTest.
+ * The sentences of "What it is" and "Terms": a method for each, with the sentence above it. What
+ * the document says of refusals is in RefusalsTest. How a set of edges is written has no method:
+ * no call takes or answers one, but for the number of a state.
  */
 public final class TermsTest {
     private static final long ALL = Networks.ALL;
@@ -30,6 +31,7 @@ public final class TermsTest {
         eachToEachOther();
         fewerThanTwoNodes();
         twoNodesAreNotFewer();
+        partsAreTheGreatestSets();
         singleNodesAreParts();
         masks();
         numbersThatAreNoMask();
@@ -404,6 +406,24 @@ public final class TermsTest {
                 due.answer("worstState(" + mask + ")", n.worstState(mask), 0);
                 due.answer("cuts(" + mask + ", 0)", n.cuts(mask, 0), 1);
             }
+        }
+    }
+
+    /** PARTS of a state are the greatest sets of nodes that it connects. */
+    private static void partsAreTheGreatestSets() {
+        int[][] edges = {{0, 2}, {2, 4}, {1, 3}, {0, 4}, {3, 1}, {4, 3}, {0, 1}, {1, 2}};
+        int[] parts = {4, 3, 2, 2, 2, 1, 1, 1};
+        NetworkStates n = Networks.none();
+        for (int i = 0; i < edges.length; i++) {
+            n.link(edges[i][0], edges[i][1], 16);
+            for (int k = 0; k <= 6; k++) {
+                due.answer("parts(" + k + ") with edges 0 to " + i, n.parts(k), k == parts[i] ? ALL : 0);
+            }
+        }
+        NetworkStates star = Networks.none();
+        for (int v = 1; v <= 4; v++) {
+            star.link(3, v == 3 ? 0 : v, 16);
+            due.answer("a star is one part, the others are single", star.parts(5 - v), ALL);
         }
     }
 
